@@ -21,6 +21,14 @@ final class Due {
         is(what, got ? 1 : 0, due ? 1 : 0);
     }
 
+    static void is(String what, String got, String due) {
+        asked++;
+        if (!got.equals(due)) {
+            wrong++;
+            System.out.println(what + " are " + got + ", due are " + due);
+        }
+    }
+
     /** The row is these numbers, and no more; beside it row throws. */
     static void row(String what, FewProducts x, long... due) {
         is(what + ": numbers of the row", x.count(6), due.length);
