@@ -6,6 +6,16 @@ final class Due {
         "a11+a22*b11+b22*c11+c22;a21+a22*b11*c12-c22;a11*b12-b22*c21+c22;a22*b21-b11*c11+c12;"
         + "a11+a12*b22*c21-c11;a21-a11*b11+b12*c22;a12-a22*b21+b22*c11";
 
+    // found by walks from the plain scheme of 3, 3, 3: right over the field of two, but not modulo four
+    static final int[] LIFTLESS_23 = {
+        40, 448, 438, 16, 32, 144, 488, 450, 360, 73, 438, 65, 128, 474, 4, 109, 384, 357, 495, 146, 72, 8, 260, 195,
+        8, 511, 2, 27, 455, 320, 24, 56, 3, 5, 448, 365, 493, 466, 364, 203, 178, 83, 26, 511, 1, 296, 258, 371,
+        64, 449, 325, 40, 192, 432, 365, 402, 292, 491, 130, 27, 91, 503, 321, 256, 432, 339, 475, 48, 339};
+    static final int[] LIFTLESS_24 = {
+        390, 400, 72, 384, 428, 469, 195, 7, 24, 352, 364, 413, 160, 292, 269, 8, 446, 27, 398, 447, 27, 217, 436, 72,
+        390, 63, 26, 438, 384, 18, 260, 511, 41, 73, 438, 9, 219, 432, 88, 32, 72, 415, 384, 168, 320, 388, 144, 96,
+        64, 365, 45, 324, 367, 40, 203, 439, 25, 320, 360, 408, 384, 128, 45, 432, 428, 144, 48, 392, 146, 344, 4, 216};
+
     private static int wrong = 0;
     private static int asked = 0;
 
@@ -92,6 +102,20 @@ final class Due {
             }
         }
         return s.toString();
+    }
+
+    /** A scheme of 3, 3, 3 over the field of two, of codes, three a product. */
+    static FewProducts coded(int[] codes) {
+        FewProducts x = made(3, 3, 3, 2);
+        for (int k = 0; k < 27; k++) {
+            x.drops(0);
+        }
+        for (int k = 0; k < codes.length; k += 3) {
+            write(x, formText(codes[k], 0, 3, 2) + "*" + formText(codes[k + 1], 1, 3, 2) + "*"
+                + formText(codes[k + 2], 2, 3, 2));
+            is("adds", x.adds(), k / 3 + 1);
+        }
+        return x;
     }
 
     static void over() {

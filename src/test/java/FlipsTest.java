@@ -97,6 +97,7 @@ public final class FlipsTest {
 
     private static void joins() {
         FewProducts x = Due.made(2, 2, 2, 2);
+        x.flips();
         Due.is("plain", x.joins(), 0);
         Due.row("plain", x, 0, 0);
         x = Due.made(1, 1, 1, 3, "a11*b11*c11;a11*-b11*-c11;-a11*b11*c11");
@@ -122,6 +123,15 @@ public final class FlipsTest {
         x = Due.made(2, 1, 2, 3, "a11*b11*c11;a11*b12*-c11");
         Due.is("at 1", x.joins(), 1);
         Due.forms("at 1", x, 1, 1 + 6, 1);
+        x = Due.made(1, 1, 1, 2);
+        while (x.count(4) < 40) {
+            Due.write(x, "a11*b11*c11");
+            x.adds();
+        }
+        Due.is("40 that are one", x.joins(), 40);
+        Due.row("40 that are one", x, 20, 20);
+        Due.is("none is left", x.joins(), 0);
+        Due.row("none is left", x, 0, 0);
     }
 
     private static void joinsInOrder() {
@@ -182,6 +192,16 @@ public final class FlipsTest {
         x = Due.made(2, 2, 2, 2, "a11*b11+b12*c11;a11*b11*c12;a11*b12*c22;a11*b21*c21");
         Due.is("v of none that is not in the sum changes", x.sheds(), 1);
         Due.forms("v of none that is not in the sum changes", x, 1, 3, 1 + 8, 1, 1, 2 + 8, 1, 4, 4);
+        Due.is("no more", x.sheds(), 0);
+        Due.row("no more", x, 0, 0, 0);
+        x = Due.made(1, 1, 2, 2, "a11*b11*c11+c21");
+        while (x.count(4) < 40) {
+            Due.write(x, "a11*b11*c11");
+            x.adds();
+        }
+        Due.is("39 go into the first", x.sheds(), 39);
+        Due.row("39 go into the first", x, 39, 0, 0);
+        Due.forms("39 go into the first", x, 1, 1, 2);
     }
 
     private static void shedsBySums() {
@@ -419,11 +439,50 @@ public final class FlipsTest {
         Due.is("32 and 9", y.widens(2), -3);
         Due.is("nothing changed", y.count(2), 2);
         Due.is("even ones are nothing", y.checks(), 0);
+        int[][] sizes = {{1, 2, 3}, {2, 3, 1}, {3, 1, 2}};
+        for (int space = 0; space < 3; space++) {
+            for (int many = 34; many <= 35; many++) {
+                FewProducts z = Due.made(sizes[space][0], sizes[space][2], sizes[space][1], 2);
+                // the space of size 1: the others have 2 and 3
+                int one = z.count(0) == 1 ? 0 : z.count(1) == 1 ? 1 : 2;
+                while (z.count(4) < many) {
+                    Due.write(z, "a11*b11*c11");
+                    z.adds();
+                }
+                Due.is("and six", z.widens(one), many == 34 ? 40 : -3);
+                // the space of size 2: the others have 1 (or 2) and 3
+                int two = z.count(0) == 2 ? 0 : z.count(1) == 2 ? 1 : 2;
+                Due.is("and three", z.widens(two), many == 34 ? -3 : 38);
+            }
+        }
         for (int space = 0; space < 3; space++) {
             FewProducts z = new FewProducts();
             Due.is("plain", z.widens(space), 12);
             Due.is("right", z.checks(), 0);
             Due.is("singles", z.count(13), 12);
+        }
+    }
+
+    /** Seeds that draw each of the 24 flips of the plain scheme of 2, 2, 2: by w, then i, then j. */
+    private static void walkEach() {
+        int[] steps = {1, 4, 2};
+        for (int k = 0; k < 24; k++) {
+            int seed = 1;
+            while (seed * 16807L % 2147483647L % 24 != k) {
+                seed++;
+            }
+            FewProducts x = new FewProducts();
+            Due.is("a walk of one", x.walks(seed, 1), 8);
+            int w = k / 8;
+            int i = k % 8;
+            // plain i, j, k is product 4 i + 2 j + k: a is shared over k, b over i, c over j
+            int j = i ^ steps[w];
+            FewProducts y = new FewProducts();
+            Due.is("the flip", y.flip(i, j, w), 0);
+            y.keeps();
+            for (int at = 0; at < 24; at++) {
+                Due.is("walk " + k + " form " + at, x.form(at / 3, at % 3), y.form(at / 3, at % 3));
+            }
         }
     }
 
@@ -449,6 +508,7 @@ public final class FlipsTest {
         Due.row("one step", x, 1, 33614);
         Due.is("c of 6: u is 2", x.form(6, 2), 2 + 1);
         Due.is("a of 2: v is 0", x.form(2, 0), 2 + 8);
+        walkEach();
         x = Due.made(1, 2, 1, 2);
         // two products, c alike: flips 0 1, 1 0 at c
         Due.is("no more than two", x.walks(2147483646, 100), 2);

@@ -1,15 +1,5 @@
 /** Promises 34 to 40: what is kept, whether it lifts, counts, the row. */
 public final class KeptTest {
-    // found by walks from the plain scheme of 3, 3, 3: right over the field of two, but not modulo four
-    private static final int[] LIFTLESS_23 = {
-        40, 448, 438, 16, 32, 144, 488, 450, 360, 73, 438, 65, 128, 474, 4, 109, 384, 357, 495, 146, 72, 8, 260, 195,
-        8, 511, 2, 27, 455, 320, 24, 56, 3, 5, 448, 365, 493, 466, 364, 203, 178, 83, 26, 511, 1, 296, 258, 371,
-        64, 449, 325, 40, 192, 432, 365, 402, 292, 491, 130, 27, 91, 503, 321, 256, 432, 339, 475, 48, 339};
-    private static final int[] LIFTLESS_24 = {
-        390, 400, 72, 384, 428, 469, 195, 7, 24, 352, 364, 413, 160, 292, 269, 8, 446, 27, 398, 447, 27, 217, 436, 72,
-        390, 63, 26, 438, 384, 18, 260, 511, 41, 73, 438, 9, 219, 432, 88, 32, 72, 415, 384, 168, 320, 388, 144, 96,
-        64, 365, 45, 324, 367, 40, 203, 439, 25, 320, 360, 408, 384, 128, 45, 432, 428, 144, 48, 392, 146, 344, 4, 216};
-
     public static void main(String[] args) {
         keeps();
         others();
@@ -104,6 +94,10 @@ public final class KeptTest {
         x.drops(0);
         Due.is("the last place", x.unlikes(), 1);
         Due.row("the last place", x, 3, 3, 3);
+        Due.write(x, "a11*b11*c11");
+        x.adds();
+        Due.is("the first place, too", x.unlikes(), 2);
+        Due.row("the first place, too", x, 0, 0, 0);
     }
 
     private static void back() {
@@ -168,25 +162,12 @@ public final class KeptTest {
         Due.is("with those that have 0: unknowns", Due.numberOf(x, 1), 8 * 8);
     }
 
-    private static FewProducts coded(int[] codes) {
-        FewProducts x = Due.made(3, 3, 3, 2);
-        for (int k = 0; k < 27; k++) {
-            x.drops(0);
-        }
-        for (int k = 0; k < codes.length; k += 3) {
-            Due.write(x, Due.formText(codes[k], 0, 3, 2) + "*" + Due.formText(codes[k + 1], 1, 3, 2) + "*"
-                + Due.formText(codes[k + 2], 2, 3, 2));
-            Due.is("adds", x.adds(), k / 3 + 1);
-        }
-        return x;
-    }
-
     private static void liftsNot() {
-        FewProducts x = coded(LIFTLESS_23);
+        FewProducts x = Due.coded(Due.LIFTLESS_23);
         Due.is("23: right", x.checks(), 0);
         Due.is("23", x.lifts(), 0);
         Due.row("23", x, 538, 621);
-        x = coded(LIFTLESS_24);
+        x = Due.coded(Due.LIFTLESS_24);
         Due.is("24: right", x.checks(), 0);
         Due.is("24", x.lifts(), 0);
         Due.row("24", x, 553, 648);

@@ -170,6 +170,12 @@ public final class SymmetryTest {
         x = Due.made(3, 3, 3, 2, "a11+a33*b11*c11;a33*b11*c11");
         Due.is("over 2", x.uses(0, 8), 2);
         Due.row("over 2", x, 2, 7);
+        x.drops(0);
+        Due.is("the first place is unused", x.uses(0, 0), 0);
+        Due.row("the first place is unused", x, 0, 8);
+        x.drops(0);
+        Due.is("no product", x.uses(2, 3), 0);
+        Due.row("no product", x, 0, 9);
     }
 
     private static void round() {
