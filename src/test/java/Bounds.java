@@ -145,6 +145,21 @@ final class Bounds {
         return x;
     }
 
+    /** A product of which no number is 0, all are 1. */
+    static String whole(int n, int m, int p) {
+        return whole('a', n, m) + "*" + whole('b', m, p) + "*" + whole('c', p, n);
+    }
+
+    private static String whole(char letter, int rows, int columns) {
+        StringBuilder s = new StringBuilder();
+        for (int r = 1; r <= rows; r++) {
+            for (int c = 1; c <= columns; c++) {
+                s.append(s.length() > 0 ? "+" : "").append(letter).append(r).append(c);
+            }
+        }
+        return s.toString();
+    }
+
     static String times(String product, int many) {
         StringBuilder s = new StringBuilder(product);
         for (int k = 1; k < many; k++) {

@@ -106,14 +106,14 @@ final class Due {
 
     /** A scheme of 3, 3, 3 over the field of two, of codes, three a product. */
     static FewProducts coded(int[] codes) {
-        FewProducts x = made(3, 3, 3, 2);
-        for (int k = 0; k < 27; k++) {
-            x.drops(0);
-        }
+        String[] products = new String[codes.length / 3];
         for (int k = 0; k < codes.length; k += 3) {
-            write(x, formText(codes[k], 0, 3, 2) + "*" + formText(codes[k + 1], 1, 3, 2) + "*"
-                + formText(codes[k + 2], 2, 3, 2));
-            is("adds", x.adds(), k / 3 + 1);
+            products[k / 3] = formText(codes[k], 0, 3, 2) + "*" + formText(codes[k + 1], 1, 3, 2) + "*"
+                + formText(codes[k + 2], 2, 3, 2);
+        }
+        FewProducts x = made(3, 3, 3, 2, products[0]);
+        for (int k = 1; k < products.length; k++) {
+            is("adds", write(x, products[k]).adds(), k + 1);
         }
         return x;
     }

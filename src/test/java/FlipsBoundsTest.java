@@ -68,6 +68,9 @@ public final class FlipsBoundsTest {
         x = Bounds.ones(1, 1, 1, 3, 2);
         Bounds.is("i, j and j, i", x.flips(), 6);
         Bounds.row("i, j and j, i", x, 2, 2, 2);
+        x = Due.made(2, 2, 2, 3, "a11*b11*c11;-a11*b11*c11;a12*-b11*c11;a21*b12*-c11");
+        Bounds.is("of TABLE 0, of 1, of 2", x.flips(), 20);
+        Bounds.row("of TABLE 0, of 1, of 2", x, 2, 6, 12);
         x = Bounds.ones(1, 1, 1, 2, 40);
         Bounds.is("all of 40", x.flips(), 3 * 40 * 39);
         Bounds.row("all of 40", x, 40 * 39, 40 * 39, 40 * 39);
@@ -161,6 +164,14 @@ public final class FlipsBoundsTest {
         Bounds.is("a chain", x.joins(), 3);
         Bounds.row("a chain", x, 0, 3);
         Bounds.forms("a chain", x, 7, 1, 1, 1, 6, 1);
+        Bounds.is("the count starts again", x.joins(), 0);
+        Bounds.row("the count starts again", x, 0, 0);
+        Due.write(x, "-a11-a12-a13*b11*c11");
+        x.adds();
+        Bounds.is("then two go over 2", x.joins(), 2);
+        Bounds.row("then two go over 2", x, 1, 1);
+        Bounds.is("the count starts again", x.joins(), 0);
+        Bounds.row("the count starts again", x, 0, 0);
     }
 
     /** The rich state, of which nothing can be joined, with the row that joins() tells then. */
@@ -223,6 +234,22 @@ public final class FlipsBoundsTest {
             // b is at 1, then at 0, then at 2
             Bounds.row("by w", x, k == 1 ? 1 : 0, k == 0 ? 1 : 0, k == 2 ? 1 : 0);
         }
+        for (int w = 0; w < 3; w++) {
+            for (int turn = 1; turn < 3; turn++) {
+                int u = (w + turn) % 3;
+                int v = 3 - w - u;
+                x = Due.made(2, 2, 2, 3, sharing(w, u, v));
+                x.keeps();
+                Bounds.is("of w " + w + ", u " + u, x.sheds(), 1);
+                Bounds.row("of w " + w + ", u " + u, x, w == 0 ? 1 : 0, w == 1 ? 1 : 0, w == 2 ? 1 : 0);
+                Bounds.is("v of the first", x.form(0, v), 1 + 9);
+                Bounds.is("v of the second", x.form(1, v), 3 + 9);
+                Bounds.is("v of one between, unlike at w", x.form(2, v), 27);
+                Bounds.is("gives the same", x.unlikes(), 0);
+                Bounds.is("the count starts again", x.sheds(), 0);
+                Bounds.row("the count starts again", x, 0, 0, 0);
+            }
+        }
         Bounds.says(18, "SHED: as long as can be");
         x = Due.made(1, 1, 2, 2, Bounds.times("a11*b11*c11", 32) + ";a11*b11*c21");
         while (x.count(4) < 40) {
@@ -243,6 +270,21 @@ public final class FlipsBoundsTest {
         x = Due.made(2, 2, 2, 3, "a11*b11*c11;a11*b11*c12;a11*b11*c21;a22*b22*c22");
         Bounds.is("two", x.sheds(), 2);
         Bounds.forms("two", x, 1, 1, 1 + 3 + 9, 27, 27, 27);
+    }
+
+    /** Three that share 11 at w, the last at u the sum of the first two; one between that does not. */
+    private static String sharing(int w, int u, int v) {
+        String[] at = {"abc".substring(w, w + 1), "abc".substring(u, u + 1), "abc".substring(v, v + 1)};
+        String[][] forms = {{"#11", "#11", "#11"}, {"#11", "#12", "#12"}, {"#22", "#22", "#22"}, {"#11", "#11+#12", "#21"}};
+        StringBuilder s = new StringBuilder();
+        for (String[] form : forms) {
+            String[] product = new String[3];
+            for (int k = 0; k < 3; k++) {
+                product[at[k].charAt(0) - 'a'] = form[k].replace("#", at[k]);
+            }
+            s.append(s.length() > 0 ? ";" : "").append(String.join("*", product));
+        }
+        return s.toString();
     }
 
     private static void shedsZeros() {
@@ -606,25 +648,39 @@ public final class FlipsBoundsTest {
             Bounds.is("50 at once, 50 times one", x.form(i, 0) + 1000L * x.form(i, 1), y.form(i, 0) + 1000L * y.form(i, 1));
         }
         Bounds.says(24, "the k-th of them, by w, then i, then j (from 0 on), k being the remainder of x by how many there are");
-        int[][] flips = {{0, 1, 0}, {1, 0, 0}, {0, 1, 1}, {1, 0, 1}, {0, 1, 2}, {1, 0, 2}};
-        for (int k = 0; k < 6; k++) {
-            int seed = 1;
-            while (step(seed) % 6 != k) {
-                seed++;
-            }
-            // one FORM alike by 2, or all three; then k-th of two at a table that alone has flips, or of six
-            FewProducts z = Due.made(2, 2, 2, 3, "a11*b11*c11;-a11*-b11*-c11");
-            FewProducts due = Due.made(2, 2, 2, 3, "a11*b11*c11;-a11*-b11*-c11");
-            int[] flip = flips[k];
-            due.flip(flip[0], flip[1], flip[2]);
-            due.joins();
-            Bounds.is("k " + k, z.walks(seed, 1), due.count(4));
-            Bounds.row("k " + k, z, 1, step(seed));
-            for (int i = 0; i < due.count(4); i++) {
-                for (int t = 0; t < 3; t++) {
-                    Bounds.is("k " + k + " form " + t, z.form(i, t), due.form(i, t));
+        // alike at 0: 0, 1; at 1: 2, 3, 4; at 2: 5, 6, 7, 8
+        String text = "a11*b12*c12;-a11*b21*c21;a12*b11*c22;a21*-b11*c11+c12;a22*b11*c11+c21;a11+a12*b22*c11;"
+            + "a11+a21*b11+b12*-c11;a11+a22*b11+b21*c11;a12+a21*b11+b22*-c11";
+        int[] first = {0, 2, 5, 9};
+        int k = 0;
+        for (int w = 0; w < 3; w++) {
+            for (int i = first[w]; i < first[w + 1]; i++) {
+                for (int j = first[w]; j < first[w + 1]; j++) {
+                    if (i != j) {
+                        walksAs(text, k, i, j, w);
+                        k++;
+                    }
                 }
             }
+        }
+        Bounds.is("all FLIPS", k, 20);
+    }
+
+    /** A walk of one step that draws the k-th of 20 flips, beside that flip. */
+    private static void walksAs(String text, int k, int i, int j, int w) {
+        int seed = 1;
+        while (step(seed) % 20 != k) {
+            seed++;
+        }
+        FewProducts x = Due.made(2, 2, 2, 3, text);
+        Bounds.is("20 FLIPS", x.flips(), 20);
+        FewProducts due = Due.made(2, 2, 2, 3, text);
+        Bounds.is("the FLIP", due.flip(i, j, w), 0);
+        due.joins();
+        Bounds.is("k " + k, x.walks(seed, 1), due.count(4));
+        Bounds.row("k " + k, x, 1, step(seed));
+        for (int at = 0; at < 3 * due.count(4); at++) {
+            Bounds.is("k " + k + " form " + at, x.form(at / 3, at % 3), due.form(at / 3, at % 3));
         }
     }
 

@@ -146,11 +146,17 @@ public final class KeptBoundsTest {
         x = Bounds.ones(3, 3, 3, 3, 0);
         x.keeps();
         Bounds.is("none and none", x.unlikes(), 0);
-        String nine = "11-#12-#13-#21-#22-#23-#31-#32-#33";
-        Due.write(x, "a" + nine.replace('#', 'a') + "*b" + nine.replace('#', 'b') + "*c" + nine.replace('#', 'c'));
-        x.adds();
-        Bounds.is("all PLACES", x.unlikes(), 729);
-        Bounds.row("all PLACES", x, 0, 0, 0);
+        for (int k = 0; k < 27; k++) {
+            int n = 1 + k % 3;
+            int m = 1 + k / 3 % 3;
+            int p = 1 + k / 9;
+            x = Bounds.ones(n, m, p, 3, 0);
+            x.keeps();
+            Due.write(x, "-" + Bounds.whole(n, m, p));
+            x.adds();
+            Bounds.is("all PLACES", x.unlikes(), n * m * m * p * p * n);
+            Bounds.row("all PLACES", x, 0, 0, 0);
+        }
         x = Bounds.ones(1, 1, 1, 3, 40);
         x.keeps();
         Due.write(x, Bounds.ONE);
@@ -255,8 +261,13 @@ public final class KeptBoundsTest {
         Bounds.is("with those that have 0", x.lifts(), 1);
         Bounds.row("with those that have 0", x, 1, 3 * 4);
         x = Due.coded(Due.LIFTLESS_23);
-        Bounds.is("RIGHT, but not to be lifted", x.lifts(), 0);
-        Bounds.row("RIGHT, but not to be lifted", x, 538, 621);
+        for (int k = 0; k < 2; k++) {
+            Bounds.is("RIGHT, but not to be lifted", x.lifts(), 0);
+            Bounds.row("RIGHT, but not to be lifted: the rank starts again", x, 538, 621);
+        }
+        x.format(1, 2, 3, 2);
+        Bounds.is("smaller ones then", x.lifts(), 1);
+        Bounds.row("smaller ones then", x, 36, 6 * 11);
         Bounds.says(38, "the rank of their left sides, how many unknowns there are");
         for (int k = 0; k < 27; k++) {
             int n = 1 + k % 3;
@@ -308,6 +319,20 @@ public final class KeptBoundsTest {
         FewProducts x = Due.write(new FewProducts(), "a11*b11*c12");
         x.adds();
         Bounds.is("one too many", x.lifts(), -3);
+        for (int k = 0; k < 27; k++) {
+            int n = 1 + k % 3;
+            int m = 1 + k / 3 % 3;
+            int p = 1 + k / 9;
+            x = Due.made(n, m, p, 2);
+            Due.write(x, "a" + n + m + "*b" + m + p + "*c" + p + n);
+            x.adds();
+            Bounds.is("the last PLACES alone are not RIGHT", x.lifts(), -3);
+            x.drops(0);
+            Due.write(x, Bounds.ONE);
+            x.adds();
+            x.drops(x.count(4) - 2);
+            Bounds.is("RIGHT again", x.lifts(), 1);
+        }
     }
 
     // ---- promise 39
@@ -354,6 +379,10 @@ public final class KeptBoundsTest {
         Bounds.is("one, by two FORMS", x.count(8), 1);
         Bounds.says(39, "13: PRODUCTS each of whose FORMS has just one NUMBER that is not 0");
         Bounds.is("three; 0 is not one", x.count(13), 3);
+        String[] twos = {"a11+a12*b11*c11", "a11*b11+b21*c11", "a11*b11*c11+c21", "a11*b11*-c11", "a12*b22*c21"};
+        for (int k = 0; k < twos.length; k++) {
+            Bounds.is(twos[k], Due.made(2, 2, 2, 3, twos[k]).count(13), k < 3 ? 0 : 1);
+        }
         Bounds.says(39, "7: signs of THE TEXT");
         for (int k = 0; k < 100; k++) {
             Bounds.is("signs", x.count(7), 4 * k);

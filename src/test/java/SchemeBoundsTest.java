@@ -297,9 +297,7 @@ public final class SchemeBoundsTest {
             Bounds.forms("q " + q, x, q - 1 + q + (q - 1) * q * q, 1 + (q - 1) * q + q * q, q - 1);
         }
         Bounds.says(5, "each at most once in a FORM");
-        String nine = "11+#12+#13+#21+#22+#23+#31+#32+#33";
-        String all = "a" + nine.replace('#', 'a') + "*b" + nine.replace('#', 'b') + "*c" + nine.replace('#', 'c');
-        Bounds.forms("each of nine once", Due.made(3, 3, 3, 2, all), 511, 511, 511);
+        Bounds.forms("each of nine once", Due.made(3, 3, 3, 2, Bounds.whole(3, 3, 3)), 511, 511, 511);
         Bounds.forms("again in another form, another product",
             Due.made(3, 3, 3, 2, "a12*b12*c12;a12+a11*b12*c12+c11"), 2, 2, 2, 3, 2, 3);
     }
@@ -428,10 +426,9 @@ public final class SchemeBoundsTest {
 
     private static void forms() {
         Bounds.says(8, "its CODE: the sum of NUMBER times q to the PLACE");
-        String nine = "-#11-#12-#13-#21-#22-#23-#31-#32-#33";
-        String all = nine.replace('#', 'a') + "*" + nine.replace('#', 'b') + "*" + nine.replace('#', 'c');
-        Bounds.forms("the greatest over 3", Due.made(3, 3, 3, 3, all), 19682, 19682, 19682);
-        Bounds.forms("the greatest over 2", Due.made(3, 3, 3, 2, all), 511, 511, 511);
+        String twos = Bounds.whole(3, 3, 3).replace("a", "-a").replace("b", "-b").replace("c", "-c").replace("+", "");
+        Bounds.forms("the greatest over 3", Due.made(3, 3, 3, 3, twos), 19682, 19682, 19682);
+        Bounds.forms("the greatest over 2", Due.made(3, 3, 3, 2, twos), 511, 511, 511);
         Bounds.forms("first and last", Due.made(3, 3, 3, 3, "a11*b33*-c33"), 1, 6561, 2 * 6561);
         FewProducts zero = Due.made(2, 1, 1, 3, "a21*b11*c12");
         zero.narrows(0, 2);
@@ -501,13 +498,24 @@ public final class SchemeBoundsTest {
         x = Bounds.ones(3, 3, 3, 3, 0);
         Bounds.is("no product: all that are NEEDED", x.checks(), 27);
         Bounds.row("no product", x, 0, 0, 0, 0, 1);
-        String nine = "11+#12+#13+#21+#22+#23+#31+#32+#33";
-        Due.write(x, "-a" + nine.replace('+', '-').replace('#', 'a') + "*b" + nine.replace('#', 'b')
-            + "*c" + nine.replace('#', 'c'));
+        Due.write(x, twos(3, 3, 3));
         x.scheme();
         Bounds.is("2 everywhere", x.checks(), 729);
         Bounds.row("2 everywhere", x, 0, 0, 0, 2, 1);
         Bounds.is("of all FORMS", x.count(9), 27);
+        for (int k = 0; k < 27; k++) {
+            int n = 1 + k % 3;
+            int m = 1 + k / 3 % 3;
+            int p = 1 + k / 9;
+            x = Due.made(n, m, p, 3, twos(n, m, p));
+            Bounds.is("2 at all PLACES", x.checks(), n * m * m * p * p * n);
+            Bounds.row("2 at all PLACES", x, 0, 0, 0, 2, 1);
+        }
+    }
+
+    /** A product whose numbers are 2 at table 0, 1 at the others. */
+    private static String twos(int n, int m, int p) {
+        return "-" + Bounds.whole(n, m, p).replace("+a", "-a");
     }
 
     private static void checksInOrder() {
@@ -605,6 +613,21 @@ public final class SchemeBoundsTest {
         // 1 3, 2 6: by columns of the tables multiplied, of 3, 6 modulo 3 nothing is missing
         Bounds.is("no product", x.multiplies(), 2);
         Bounds.row("no product", x, 0, 0, 0, 0);
+        x = Due.made(1, 2, 3, 3);
+        Due.write(x, "1,2,1,2,0,0,1,1");
+        Bounds.is("1 2 3", x.multiplies(), 0);
+        Bounds.row("1 2 3: 1, 2 + 2, 2", x, 1, 1, 2);
+        Due.write(x, "1,2,1,2,0,0,1,1");
+        x.drops(3);
+        Bounds.is("1 2 3, without a12 b21 c11", x.multiplies(), 0);
+        x.drops(3);
+        Due.write(x, "1,2,1,2,0,0,1,1");
+        Bounds.is("1 2 3, without a12 b22 c21", x.multiplies(), 1);
+        Bounds.row("1 2 3, without a12 b22 c21", x, 1, 2, 2);
+        x = Due.made(3, 2, 1, 2);
+        Due.write(x, "1,0,0,1,1,1,1,0");
+        Bounds.is("3 2 1", x.multiplies(), 0);
+        Bounds.row("3 2 1", x, 1, 0, 1);
         x = Due.made(2, 2, 2, 2);
         Due.write(x, "0,0,0,0,0,0,0,0");
         Bounds.is("all 0", x.multiplies(), 0);
@@ -672,8 +695,15 @@ public final class SchemeBoundsTest {
         x = Bounds.ones(1, 1, 2, 2, 40);
         Bounds.is("40 at a PLACE of TABLE 2, none at the other", x.sums(), 39);
         Bounds.row("40 at a PLACE of TABLE 2", x, 0, 0, 39);
-        String nine = "11-#12-#13-#21-#22-#23-#31-#32-#33";
-        String all = "a" + nine.replace('#', 'a') + "*b" + nine.replace('#', 'b') + "*c" + nine.replace('#', 'c');
+        for (int k = 0; k < 27; k++) {
+            int n = 1 + k % 3;
+            int m = 1 + k / 3 % 3;
+            int p = 1 + k / 9;
+            x = Due.made(n, m, p, 2, Bounds.whole(n, m, p) + ";" + Bounds.whole(n, m, p));
+            x.sums();
+            Bounds.row("all PLACES, twice", x, 2 * (n * m - 1), 2 * (m * p - 1), p * n);
+        }
+        String all = Bounds.whole(3, 3, 3);
         x = Due.made(3, 3, 3, 3, all + ";" + all + ";" + all);
         Bounds.is("nine each", x.sums(), 3 * 8 + 3 * 8 + 9 * 2);
         Bounds.row("nine each", x, 24, 24, 18);
